@@ -336,6 +336,8 @@ public final class PromiseTest {
         }
         int tours = 0;
         for (int c = -10; c < 5000; c++) {
+            // No object is promised to answer more than 512 calls.
+            x = c % 500 == 0 ? square() : x;
             tours += x.priceOfTour(c) < 0 ? 0 : 1;
         }
         due("priceOfTour: how many codes", tours, 6);
