@@ -423,8 +423,9 @@ public final class TourBoundaryTest {
 
     private static void promise13TourNotAllowedIs0() {
         for (TourBounds x : tourless()) {
-            for (int code : Checks.codes(x.towns()).subList(0, TOURS[x.towns()] / 2 + 1)) {
-                Checks.due("isAllowed(" + code + "), n = " + x.towns(), x.isAllowed(code), 0);
+            int n = x.towns();
+            for (int code : Checks.codes(n).subList(0, TOURS[n] / 2 + 1)) {
+                Checks.due("isAllowed(" + code + "), n = " + n, x.isAllowed(code), 0);
             }
         }
     }
@@ -557,10 +558,11 @@ public final class TourBoundaryTest {
 
     private static void promise18NoTourNowIsMinus3() {
         for (TourBounds x : tourless()) {
-            for (int a = 0; a < x.towns(); a++) {
-                for (int b = 0; b < x.towns(); b++) {
+            int n = x.towns();
+            for (int a = 0; a < n; a++) {
+                for (int b = 0; b < n; b++) {
                     if (a != b) {
-                        Checks.due("worth(" + a + ", " + b + "), n = " + x.towns(), x.worth(a, b), -3);
+                        Checks.due("worth(" + a + ", " + b + "), n = " + n, x.worth(a, b), -3);
                     }
                 }
             }
